@@ -18,7 +18,6 @@ public final class FerriesLevel {
     private static final int MOST_GAIN = 3;
     private static final int MOST_POUNDS = 99;
     private static final int MOST_CROSSINGS = 4;
-    private static final int SLOTS = 2;
     private static final int EVERYONE = 255;
     private static final int WAITS = 10;
     private static final int GONE = 20;
@@ -28,13 +27,11 @@ public final class FerriesLevel {
     private final Script script = new Script();
     private final Craft craft = new Craft();
     private final Log log = new Log();
-    private final Log[] slots = new Log[SLOTS];
+    private final Log slotZero = new Log();
+    private final Log slotOne = new Log();
     private final Planner planner = new Planner();
 
     public FerriesLevel() {
-        for (int slot = 0; slot < SLOTS; slot++) {
-            slots[slot] = new Log();
-        }
     }
 
     // ---- the ferry
@@ -66,9 +63,8 @@ public final class FerriesLevel {
         }
         craft.readFrom(script);
         log.startAnew(craft);
-        for (int slot = 0; slot < SLOTS; slot++) {
-            slots[slot].filled = false;
-        }
+        slotZero.filled = false;
+        slotOne.filled = false;
         planner.forget();
         return craft.people;
     }
@@ -228,12 +224,14 @@ public final class FerriesLevel {
         if (x < 1 || x > MOST_POUNDS) {
             return OUTSIDE;
         }
-        planner.findMakeWeights(craft, log);
+        planner.findChoices(craft, log);
+        planner.findMakeWeights();
         return planner.madeBy(x);
     }
 
     public int bestMakes() {
-        planner.findMakeWeights(craft, log);
+        planner.findChoices(craft, log);
+        planner.findMakeWeights();
         return planner.bestMakeWeight();
     }
 
@@ -246,12 +244,14 @@ public final class FerriesLevel {
         if (r < 1 || r > MOST_CROSSINGS) {
             return OUTSIDE;
         }
-        planner.findChains(craft, log);
+        planner.findChoices(craft, log);
+        planner.findChains();
         return planner.faresWithin(r);
     }
 
     public int all() {
-        planner.findChains(craft, log);
+        planner.findChoices(craft, log);
+        planner.findChains();
         return planner.fewestForAll();
     }
 
@@ -308,22 +308,24 @@ public final class FerriesLevel {
     // ---- slots
 
     public int keep(int slot) {
-        if (slot < 0 || slot >= SLOTS) {
+        if (!isSlot(slot)) {
             return UNKNOWN;
         }
-        slots[slot].copyFrom(log);
-        slots[slot].filled = true;
+        Log kept = slotOf(slot);
+        kept.copyFrom(log);
+        kept.filled = true;
         return log.boats;
     }
 
     public int again(int slot) {
-        if (slot < 0 || slot >= SLOTS) {
+        if (!isSlot(slot)) {
             return UNKNOWN;
         }
-        if (!slots[slot].filled) {
+        Log kept = slotOf(slot);
+        if (!kept.filled) {
             return STATE;
         }
-        log.copyFrom(slots[slot]);
+        log.copyFrom(kept);
         planner.forget();
         return log.boats;
     }
@@ -339,6 +341,14 @@ public final class FerriesLevel {
             case 6: return craft.faresOf(log.gone());
             default: return OUTSIDE;
         }
+    }
+
+    private static boolean isSlot(int slot) {
+        return slot == 0 || slot == 1;
+    }
+
+    private Log slotOf(int slot) {
+        return slot == 0 ? slotZero : slotOne;
     }
 
     // ---- a boatman's rule
@@ -438,7 +448,8 @@ public final class FerriesLevel {
 
     /** With one GAIN for all minutes it is no matter that it stops at 0 each minute. */
     private static int poundsAfter(int pounds, int gain, int minutes) {
-        return Math.max(0, pounds + gain * minutes);
+        int then = pounds + gain * minutes;
+        return then < 0 ? 0 : then;
     }
 
     /** THE TEXT. */
@@ -637,6 +648,7 @@ public final class FerriesLevel {
             }
         }
 
+        /** What stands behind the last BOAT may be of one that was taken back. */
         void depart() {
             if (boats < MOST_BOATS) {
                 boats++;
@@ -647,7 +659,6 @@ public final class FerriesLevel {
         /** The crew of the last BOAT becomes the one that is laid. */
         void takeBack() {
             if (boats > 0) {
-                setLaid(0);
                 boats--;
             }
         }
@@ -684,6 +695,9 @@ public final class FerriesLevel {
      * The weights at leaving and at arriving stand in one int, so that one comparison tells
      * whether both are level: the pounds at arriving count 65536 times. An END's PULL is its
      * arm times what it weighs; a crew is LEVEL if all its ENDS pull alike.
+     *
+     * A loop over all sets within an open one goes down from the open one: (set - 1) & open
+     * is the next smaller, 0 the last, and -1 ends it.
      */
     private static final class Planner {
         private static final int SETS = 256;
@@ -691,12 +705,16 @@ public final class FerriesLevel {
         private static final int ARRIVING = 65536;
         private static final int BOTH_TIMES = 65537;
         private static final int NO_CHOICE = -1;
+        private static final int AT_EACH_END = 0x010101;
+        /** More than PEOPLE there can be, so that fares come ahead of them in a score. */
+        private static final int SCORE_OF_FARE = 16;
 
         private final int[] load = new int[SETS];
         private final int[] fares = new int[SETS];
         private final int[] heads = new int[SETS];
         /** By the fewest how many CHOICES just this set is gone; 1 for a set that is one. */
         private final int[] fewest = new int[SETS];
+        /** By the pounds of a MAKE-WEIGHT; at 0 the fares without one. */
         private final int[] faresMade = new int[MOST_POUNDS + 1];
         private final int[] willing = new int[MOST_ENDS];
         private final int[] arm = new int[MOST_ENDS];
@@ -706,7 +724,6 @@ public final class FerriesLevel {
         private int size = 1;
         private int waiting = 0;
         private int bestScore = NO_CHOICE;
-        private int bestRank = 0;
         int bestCrew = 0;
         private boolean choicesFound = false;
         private boolean chainsFound = false;
@@ -725,7 +742,7 @@ public final class FerriesLevel {
         }
 
         int bestFares() {
-            return hasChoice() ? bestScore / 16 : 0;
+            return hasChoice() ? bestScore / SCORE_OF_FARE : 0;
         }
 
         int faresWithout(int person) {
@@ -796,8 +813,8 @@ public final class FerriesLevel {
             choicesFound = true;
         }
 
-        void findMakeWeights(Craft craft, Log log) {
-            findChoices(craft, log);
+        /** Only behind findChoices. */
+        void findMakeWeights() {
             if (makeWeightsFound) {
                 return;
             }
@@ -810,8 +827,8 @@ public final class FerriesLevel {
             makeWeightsFound = true;
         }
 
-        void findChains(Craft craft, Log log) {
-            findChoices(craft, log);
+        /** Only behind findChoices. */
+        void findChains() {
             if (chainsFound) {
                 return;
             }
@@ -828,12 +845,12 @@ public final class FerriesLevel {
             int others = set & (set - 1);
             int lowest = set - others;
             int least = NEVER;
-            // each step makes 'others taken' smaller, down to 0
             for (int taken = others; taken >= 0; taken = taken == 0 ? -1 : (taken - 1) & others) {
                 if (fewest[lowest | taken] == 1) {
                     least = Math.min(least, 1 + fewest[others & ~taken]);
                 }
             }
+            // one CHOICE and NEVER behind it is NEVER, too
             return Math.min(least, NEVER);
         }
 
@@ -923,7 +940,7 @@ public final class FerriesLevel {
 
         private void noteMakeWeight(int set, int lack, int by) {
             int pull = lack & (ARRIVING - 1);
-            if (by < 1 || pull * BOTH_TIMES != lack || pull % by != 0) {
+            if (fares[set] <= faresMade[0] || by < 1 || pull * BOTH_TIMES != lack || pull % by != 0) {
                 return;
             }
             int pounds = pull / by;
@@ -937,26 +954,22 @@ public final class FerriesLevel {
                 return;
             }
             fewest[set] = 1;
-            int score = fares[set] * 16 + heads[set];
-            if (score < bestScore) {
-                return;
-            }
-            int rank = rankOf(crew);
-            if (score > bestScore || rank < bestRank) {
+            int score = fares[set] * SCORE_OF_FARE + heads[set];
+            if (score > bestScore || score == bestScore && isAhead(crew, bestCrew)) {
                 bestScore = score;
-                bestRank = rank;
                 bestCrew = crew;
             }
         }
 
-        /** Of like CHOICES the one with the lower rank is the first. */
-        private static int rankOf(int crew) {
-            int rank = 0;
-            for (int person = 0; person < MOST_PEOPLE; person++) {
-                int end = endOf(crew, person);
-                rank = rank * 4 + (end == NONE ? 0 : end + 1);
-            }
-            return rank;
+        /**
+         * By the lowest PERSON that does not sit alike in both: its bit is higher at a higher
+         * END, and 0 if it is not chosen.
+         */
+        private static boolean isAhead(int crew, int other) {
+            int unlike = crew ^ other;
+            int people = unlike | unlike >>> 8 | unlike >>> 16;
+            int person = (people & -people) * AT_EACH_END;
+            return (crew & person) < (other & person);
         }
     }
 }

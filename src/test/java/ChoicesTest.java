@@ -65,6 +65,11 @@ public final class ChoicesTest {
         bestAts("18 the first:", x, FerriesLevel.NONE, 0, 1);
         FerriesLevel ends = Check.ferry("B21180P1013P1013");
         bestAts("18 END 0 ahead of 1:", ends, 0, 1);
+        // {0, 3 | 1} and {2 | 1, 4} bring alike, and are as many
+        FerriesLevel not = Check.ferry("B21180P1010P2011P3010P1010P1011");
+        bestAts("18 not chosen ahead of END 0:", not, FerriesLevel.NONE, 1, 0, FerriesLevel.NONE, 1);
+        FerriesLevel zero = Check.ferry("B21180P3013P1013P1013P1013");
+        bestAts("18 END 0 ahead of END 1:", zero, 0, 1, 1, 1);
         FerriesLevel fares = Check.ferry("B21110P1093P1013P1093P1013");
         due("17 fares ahead of all", 18, fares.best());
         bestAts("18 fares:", fares, 0, FerriesLevel.NONE, 1, FerriesLevel.NONE);
@@ -74,6 +79,10 @@ public final class ChoicesTest {
         FerriesLevel x = Check.ferry("B31180P1013P1013P1013P2073");
         due("17 best() of three ends", 3, x.best());
         bestAts("18 three:", x, 0, 1, 2, FerriesLevel.NONE);
+        FerriesLevel one = Check.ferry("B31180P1013P1011P1010P1012");
+        bestAts("18 not chosen ahead of the rest:", one, FerriesLevel.NONE, 1, 0, 2);
+        FerriesLevel two = Check.ferry("B31180P1013P1011P1010P1012P2090P2091P2092");
+        due("17 best() of three ends with all but one", 30, two.best());
         FerriesLevel y = Check.ferry("B33180P2013P1010P1023P2042P2033");
         due("17 best(): no arms with three ends", 10, y.best());
         bestAts("18 no arms:", y, FerriesLevel.NONE, 0, 0, 2, 1);
@@ -189,6 +198,13 @@ public final class ChoicesTest {
         due("21 bestMakes()", 1, far.bestMakes());
         FerriesLevel last = Check.ferry("B21110P9993");
         due("21 bestMakes() of 99", 99, last.bestMakes());
+        FerriesLevel least = Check.ferry("B21110P1013");
+        due("21 bestMakes() that brings 1", 10, least.bestMakes());
+        least.gain(0, 1);
+        least.minutes(1);
+        due("21 bestMakes() of one that gains", FerriesLevel.NONE, least.bestMakes());
+        least.minutes(0);
+        due("21 bestMakes() of no minutes", 10, least.bestMakes());
         FerriesLevel beyond = Check.ferry("B21189P9990");
         due("21 bestMakes() of more than 99", FerriesLevel.NONE, beyond.bestMakes());
     }

@@ -5,6 +5,8 @@
 public final class DrawnRunsTest {
     private static final int RUNS = 1500;
     private static final int CALLS = 150;
+    /** An object is good for 512 calls; a new text, or a crew that is laid, takes some fifty at most. */
+    private static final int LAST_CALL = 512 - 64;
     private static final String[] NAMES = {
         "write", "wipe", "fault", "ferry", "boat", "person", "gain", "minutes", "lay", "unlay", "weighs",
         "off", "leave", "back", "left", "best", "bestAt", "worth", "makes", "bestMakes", "sets", "crossings",
@@ -22,6 +24,7 @@ public final class DrawnRunsTest {
     private final PlainModel model = new PlainModel();
     private final StringBuilder story = new StringBuilder();
     private int people = 0;
+    private int made = 0;
 
     private DrawnRunsTest(int run) {
         random = new Draw(run);
@@ -41,7 +44,7 @@ public final class DrawnRunsTest {
     private void go(int run) {
         boolean many = run % 25 == 0;
         tellFerry(many);
-        for (int call = 0; call < CALLS && CHECK.wrongAnswers() < 5; call++) {
+        for (int call = 0; call < CALLS && made < LAST_CALL && CHECK.wrongAnswers() < 5; call++) {
             if (random.nextInt(60) == 0) {
                 tellFerry(many);
             } else {
@@ -178,6 +181,7 @@ public final class DrawnRunsTest {
     }
 
     private int same(int which, int a, long b) {
+        made++;
         int want = answer(which, a, b, false);
         int got = answer(which, a, b, true);
         story.append(NAMES[which]).append('(').append(a).append(", ").append(b).append(")=").append(got).append(' ');

@@ -297,6 +297,9 @@ public final class BoatEdgesTest {
         }
         due("count(5)", 8, x.count(5));
         due("count(2): nobody waits", 0, x.count(2));
+        CHECK.says("WAITING are PEOPLE that are not gone.");
+        due("count(4): all are gone", 8, x.count(4));
+        due("lay(7, 1)", STATE, x.lay(7, 1));
         CHECK.says("STATE: nobody is laid, or it is not LEVEL; FULL: 8.");
         // eight boats took all eight PEOPLE, so nobody is laid, and STATE is named first
         due("leave() behind eight", STATE, x.leave());
@@ -341,6 +344,9 @@ public final class BoatEdgesTest {
         for (int p = 0; p < 8; p++) {
             due("person(" + p + ", 5)", behind[p], x.person(p, 5));
         }
+        due("leave() once more", 3, x.leave());
+        due("count(3): of the second boat nobody is laid", 0, x.count(3));
+        due("person(3, 5)", 10, x.person(3, 5));
         // an END that takes one: who was laid there since then makes room
         FerriesLevel one = Check.lay(Check.leave(Check.ferry("B21110P1013P1013P1013"), "01"), "--0");
         due("back()", 0, one.back());

@@ -15,6 +15,7 @@ public final class ChoiceEdgesTest {
         levelAtBothTimes();
         ofThoseWaiting();
         whatIsLaid();
+        asItIsNow();
         mostFares();
         mostPeople();
         notChosenAhead();
@@ -147,6 +148,40 @@ public final class ChoiceEdgesTest {
         CHECK.same("choices with both full", plain, choicesOf(Check.lay(Check.ferry(text), "00-11")));
     }
 
+    /** Each call that changes who waits, or what they weigh, is asked behind once more, on one object. */
+    private static void asItIsNow() {
+        CHECK.says("A CHOICE: which of those WAITING sit at which END (..), somebody, and LEVEL.");
+        String text = "B21120P1013P1023P1043P2083P4003";
+        FerriesLevel x = Check.ferry(text);
+        String plain = choicesOf(x);
+        x.gain(0, 1);
+        CHECK.same("choices of a gain and no MINUTES", plain, choicesOf(x));
+        x.minutes(1);
+        CHECK.same("choices behind minutes()", choicesOf(with(text, 1, 1)), choicesOf(x));
+        x.gain(1, 1);
+        CHECK.same("choices behind gain()", choicesOf(with(text, 1, 1, 1)), choicesOf(x));
+        x.keep(0);
+        Check.leave(x, "01");
+        CHECK.same("choices behind leave()", choicesOf(Check.leave(Check.ferry(text), "01")), choicesOf(x));
+        x.back();
+        CHECK.same("choices behind back()", choicesOf(with(text, 1, 1, 1)), choicesOf(x));
+        x.minutes(0);
+        CHECK.same("choices behind minutes()", plain, choicesOf(x));
+        x.again(0);
+        CHECK.same("choices behind again()", choicesOf(with(text, 1, 1, 1)), choicesOf(x));
+        x.ferry();
+        CHECK.same("choices behind ferry()", plain, choicesOf(x));
+        x.wipe();
+        CHECK.same("choices behind wipe()", plain, choicesOf(x));
+        FerriesLevel alone = Check.ferry(EACH_ALONE);
+        for (int p = 0; p < 8; p++) {
+            due("all() ahead of boat " + p, 8 - p, alone.all());
+            due("sets() ahead of boat " + p, 8 - p, alone.sets());
+            due("crossings(4) ahead of boat " + p, Math.min(4, 8 - p), alone.crossings(4));
+            Check.leave(alone, "-".repeat(p) + "1");
+        }
+    }
+
     private static String choicesOf(FerriesLevel x) {
         StringBuilder b = new StringBuilder(ends(x, 5, false)).append(' ').append(ends(x, 5, true));
         for (int p = 0; p < 5; p++) {
@@ -184,6 +219,10 @@ public final class ChoiceEdgesTest {
         CHECK.says("of like ones the first: by PERSON 0, then 1 .. (not chosen ahead of END 0, 1, 2)");
         chosen("B21110P1010P1010P1011", "-01");
         chosen("B21110P1011P1011P1010", "-10");
+        chosen("B21110P1013P1010P1013", "-01");
+        chosen("B21130P2011P2013P2010", "-10");
+        // 30 against 20 and 10, or 10 and 10 against 20
+        chosen("B21120P1010P3013P2011P1013", "-011");
         chosen("B31110P1012P1012P1010P1011", "-201");
         chosen("B21110" + "P1013".repeat(8), "------01");
         chosen("B31110" + "P1013".repeat(8), "-----012");
@@ -242,6 +281,11 @@ public final class ChoiceEdgesTest {
         due("bestAt(7) of eight", 1, Check.ferry("B21180" + "P1013".repeat(8)).bestAt(7));
         due("bestAt(8) of eight", UNKNOWN, Check.ferry("B21180" + "P1013".repeat(8)).bestAt(8));
         due("bestAt(0), gone", NONE, Check.eightBoats().bestAt(0));
+        FerriesLevel none = with("B21180P1013P1013", 0, 1, 0);
+        due("bestAt(0) of one there is", 0, none.bestAt(0));
+        none.minutes(1);
+        due("bestAt(0) of none any more", NONE, none.bestAt(0));
+        due("bestAt(1) of none any more", NONE, none.bestAt(1));
     }
 
     private static void worthEdges() {
@@ -250,6 +294,7 @@ public final class ChoiceEdgesTest {
         due("worth(0): all without it", 72, Check.ferry("B21180P7091" + "P1090".repeat(7)).worth(0));
         due("worth(0): there is none at all", 0, Check.ferry("B21180P1023P1133").worth(0));
         due("worth(0): another for it", 0, Check.ferry("B21110P1023P1023P1023").worth(0));
+        due("worth(1): one alone without it", 4, Check.ferry("B21119P0911P0951").worth(1));
         due("worth(2): not chosen", 0, Check.ferry("B21180P1023P1033P9993").worth(2));
         due("worth(0): best without fares", 0, Check.ferry("B21180P1003P1003").worth(0));
         due("worth(0): 9 and 2 with it, 1 and 2 without", 8, Check.ferry("B21110P1093P1013P1023").worth(0));
@@ -282,6 +327,9 @@ public final class ChoiceEdgesTest {
         for (int pounds = 2; pounds < 98; pounds++) {
             due("makes(" + pounds + ")", 0, x.makes(pounds));
         }
+        FerriesLevel turned = Check.ferry("B21110P0191P9980");
+        due("makes(1) at END 0", 9, turned.makes(1));
+        due("makes(99) at END 1", 8, turned.makes(99));
     }
 
     /** What all others weigh leaves room for a MAKE-WEIGHT of 5 at one END alone, behind so many that sit there. */
@@ -295,9 +343,12 @@ public final class ChoiceEdgesTest {
                 due("makes(5) at END 0 with " + sit + " that takes " + takes, brings, zero.makes(5));
                 FerriesLevel one = Check.ferry("B211" + takes + "0P" + sitting + "90" + "P1001".repeat(sit));
                 due("makes(5) at END 1 with " + sit + " that takes " + takes, brings, one.makes(5));
-                FerriesLevel two = Check.ferry("B311" + takes + "0P" + sitting + "90P" + sitting + "01"
-                        + "P1002".repeat(sit));
-                due("makes(5) at END 2 with " + sit + " that takes " + takes, brings, two.makes(5));
+                for (int end = 0; end < 3; end++) {
+                    String others = "P" + sitting + "9" + (end + 1) % 3 + "P" + sitting + "0" + (end + 2) % 3;
+                    FerriesLevel three = Check.ferry("B311" + takes + "0" + others + ("P100" + end).repeat(sit));
+                    due("makes(5) at END " + end + " of three with " + sit + " that takes " + takes, brings,
+                            three.makes(5));
+                }
             }
         }
         // the other END takes as many as ever
@@ -343,6 +394,7 @@ public final class ChoiceEdgesTest {
         due("bestMakes() of like ones", 10, Check.ferry("B21110P2093P1093").bestMakes());
         due("bestMakes() of most", 20, Check.ferry("B21110P2093P1083").bestMakes());
         due("bestMakes() of most, and less", 10, Check.ferry("B21110P2083P1093").bestMakes());
+        due("bestMakes() that brings 1", 10, Check.ferry("B21110P1013").bestMakes());
         CHECK.says("The best one; NONE: none brings more.");
         due("bestMakes() that would be 100", NONE, Check.ferry("B21181P9990").bestMakes());
         due("bestMakes() of 99 with the LIST", 99, Check.ferry("B21181P9890").bestMakes());
@@ -385,6 +437,7 @@ public final class ChoiceEdgesTest {
             due("crossings(" + r + ") of nobody", 0, new FerriesLevel().crossings(r));
             due("crossings(" + r + ") of all gone", 0, Check.eightBoats().crossings(r));
         }
+        due("crossings(1) of one alone", 5, Check.ferry("B21119P0951P0911").crossings(1));
         CHECK.says("each PERSON in one");
         due("crossings(4) of three", 17, Check.ferry("B21110P1093P1083P1073").crossings(4));
         due("crossings(4) of four", 30, Check.ferry("B21110P1093P1083P1073P1063").crossings(4));
@@ -430,6 +483,10 @@ public final class ChoiceEdgesTest {
         ruled("B21380P0213P0113P0113", "010");
         ruled("B33180P0113P0213P0113P0113", "0120");
         ruled("B31380P0113P0213P0213P0113", "0120");
+        // as it weighs when it leaves: 10 against 9, whatever they gain
+        CHECK.same("the rule of gains", "011", ends(with("B21180P1013P0913P0113", 9, -3, 3, 0), 3, true));
+        CHECK.same("the rule of losses", "010", ends(with("B21180P0913P1013P0113", 9, 3, -3, 0), 3, true));
+        CHECK.same("the rule of gains and losses", "011", ends(with("B21180P1013P0913P0113", 9, 3, -3, 0), 3, true));
     }
 
     private static void ruleOfLikeEnds() {

@@ -223,6 +223,7 @@ public final class ClaimSlotEdgesTest {
             due("mayWeigh(" + far + ")", UNKNOWN, x.mayWeigh(far));
         }
         due("mayWeigh(0) of no boat", 99, Check.ferry("B21180P1013").mayWeigh(0));
+        due("mayWeigh(0) of no boat, with the LIST", 99, Check.ferry("B21189P1013").mayWeigh(0));
         due("mayWeigh(0) of nobody", UNKNOWN, new FerriesLevel().mayWeigh(0));
         due("mayWeigh(7) of eight boats", 1, Check.eightBoats().mayWeigh(7));
         x.back();
@@ -335,6 +336,17 @@ public final class ClaimSlotEdgesTest {
         due("again(0)", 2, x.again(0));
         due("again(1)", 1, x.again(1));
         due("person(1, 5): laid as it was taken back", 1, x.person(1, 5));
+        // the first boat of all is another one than was kept
+        FerriesLevel first = Check.leave(Check.ferry("B21180P1013P1013P1013"), "01");
+        first.keep(0);
+        first.back();
+        first.unlay(1);
+        first.lay(2, 1);
+        first.leave();
+        due("left(0, 1)", 4, first.left(0, 1));
+        due("again(0)", 1, first.again(0));
+        due("left(0, 1) as it was kept", 2, first.left(0, 1));
+        due("person(2, 5)", 10, first.person(2, 5));
     }
 
     private static void slotsAreCopies() {

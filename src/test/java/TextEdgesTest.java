@@ -23,6 +23,7 @@ public final class TextEdgesTest {
         notAtItsEnd();
         ferryOfAFault();
         ferryAnew();
+        lastCall();
         CHECK.end("TextEdgesTest");
     }
 
@@ -216,9 +217,11 @@ public final class TextEdgesTest {
             due("ferry() of " + n, n, x.ferry());
             due("count(1)", n, x.count(1));
         }
+        CHECK.says("whatever came behind it (its length set aside)");
         for (String more : new String[] {"P", "P1", "PP", "0", "X", "\u0000", "\u00ff\u00ff"}) {
             fault(EIGHT + more, 46);
         }
+        CHECK.says("numbered as they are told");
         FerriesLevel order = Check.ferry("B21180P1093P2083P3073P4063P5053P6043P7033P8023");
         for (int p = 0; p < 8; p++) {
             due("person(" + p + ", 0)", 10 * (p + 1), order.person(p, 0));
@@ -304,5 +307,18 @@ public final class TextEdgesTest {
         CHECK.says("its weight at first, and when THE FERRY is made anew");
         due("person(0, 4)", 10, same.person(0, 4));
         due("person(7, 4)", 10, same.person(7, 4));
+    }
+
+    private static void lastCall() {
+        CHECK.says("An object is used for at most 512 calls after it has been made");
+        FerriesLevel x = Check.ferry("B21180P1023P1033");
+        // three calls told it, and each round makes two
+        for (int call = 5; call <= 509; call += 2) {
+            due("lay(0, 0) as call " + (call - 1), 1, x.lay(0, 0));
+            due("unlay(0) as call " + call, 0, x.unlay(0));
+        }
+        due("best() as call 510", 5, x.best());
+        due("lay(1, 1) as call 511", 1, x.lay(1, 1));
+        due("weighs(1, 0) as call 512", 10, x.weighs(1, 0));
     }
 }

@@ -89,7 +89,7 @@ public final class BoatEdgesTest {
     }
 
     private static void layState() {
-        CHECK.says("STATE: it does not wait, is laid, or will not sit there");
+        CHECK.says("UNKNOWN: person, end; STATE: it does not wait, is laid, or will not sit there; FULL.");
         FerriesLevel x = Check.lay(Check.leave(Check.ferry("B31180" + "P1013".repeat(5)), "012"), "---1");
         for (int end = 0; end < 3; end++) {
             for (int p = 0; p < 4; p++) {
@@ -155,7 +155,7 @@ public final class BoatEdgesTest {
             most.gain(p, 3);
         }
         due("weighs(0, 9) at most", 9 + 8 * (99 + 27), most.weighs(0, 9));
-        CHECK.says("UNKNOWN; OUTSIDE: 0 to 9.");
+        CHECK.says("What an END weighs behind so many minutes. UNKNOWN; OUTSIDE: 0 to 9.");
         for (int ends = 2; ends <= 3; ends++) {
             FerriesLevel x = Check.ferry("B" + ends + "1184");
             for (int end = -1; end <= 4; end++) {
@@ -217,7 +217,7 @@ public final class BoatEdgesTest {
     // ---- leave
 
     private static void somebodyIsLaid() {
-        CHECK.says("THE BOAT LEAVES, if somebody is laid, and it is LEVEL");
+        CHECK.says("THE BOAT LEAVES, if somebody is laid, and it is LEVEL: they are gone");
         due("leave() of a new object, which is level", STATE, new FerriesLevel().leave());
         FerriesLevel x = Check.ferry("B31180P1013P1013P1013");
         due("off(0) of nobody", 10000, x.off(0));

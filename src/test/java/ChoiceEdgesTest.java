@@ -264,7 +264,7 @@ public final class ChoiceEdgesTest {
     }
 
     private static void whoIsChosen() {
-        CHECK.says("NONE: it is not chosen, or there is none. UNKNOWN.");
+        CHECK.says("The END of a PERSON in THE BEST CHOICE; NONE: it is not chosen, or there is none. UNKNOWN.");
         FerriesLevel x = Check.ferry("B31180P1013P1013P1013P9993");
         due("bestAt(-1)", UNKNOWN, x.bestAt(-1));
         due("bestAt(0)", 0, x.bestAt(0));
@@ -320,6 +320,7 @@ public final class ChoiceEdgesTest {
         due("makes(98)", 17, x.makes(98));
         due("makes(99)", 8, x.makes(99));
         due("makes(100)", OUTSIDE, x.makes(100));
+        CHECK.says("What a MAKE-WEIGHT brings more. OUTSIDE: x.");
         due("makes(-1)", OUTSIDE, x.makes(-1));
         for (int far : FAR) {
             due("makes(" + far + ")", OUTSIDE, x.makes(far));
@@ -426,6 +427,7 @@ public final class ChoiceEdgesTest {
         for (int r = 1; r <= 4; r++) {
             due("crossings(" + r + ") of eight", r, x.crossings(r));
         }
+        CHECK.says("IN so many CROSSINGS. OUTSIDE: r.");
         due("crossings(5)", OUTSIDE, x.crossings(5));
         due("crossings(-1)", OUTSIDE, x.crossings(-1));
         for (int far : FAR) {

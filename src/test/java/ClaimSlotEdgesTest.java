@@ -105,6 +105,7 @@ public final class ClaimSlotEdgesTest {
 
     private static void fitsAllBoats() {
         CHECK.says("They FIT, if by them (..) all BOATS that left were LEVEL.");
+        CHECK.says("Whether CLAIMS FIT: 1, 0.");
         due("fits() of a new object", 1, new FerriesLevel().fits());
         due("fits() of no boat, whatever is claimed", 1, claims(Check.ferry("B21180P1013P1013"), 1, 99).fits());
         due("fits() of one that is laid alone", 1,
@@ -175,7 +176,7 @@ public final class ClaimSlotEdgesTest {
     }
 
     private static void liarsBounds() {
-        CHECK.says("each PERSON by another claim of whom alone they would");
+        CHECK.says("each PERSON by another claim of whom alone they would; as bits");
         // END 1 says 98 and 1, or 99 and 1: PERSON 0 can say 99, but not 100; PERSON 1 can say 49
         due("liars(): 99 can be claimed", 3, claims(oneBoat("B21180P2013P1013P1013"), 50, 98, 1).liars());
         due("liars(): 100 can not", 2, claims(oneBoat("B21180P2013P1013P1013"), 50, 99, 1).liars());
@@ -224,6 +225,7 @@ public final class ClaimSlotEdgesTest {
         }
         due("mayWeigh(0) of no boat", 99, Check.ferry("B21180P1013").mayWeigh(0));
         due("mayWeigh(0) of no boat, with the LIST", 99, Check.ferry("B21189P1013").mayWeigh(0));
+        CHECK.says("MAY WEIGH. UNKNOWN.");
         due("mayWeigh(0) of nobody", UNKNOWN, new FerriesLevel().mayWeigh(0));
         due("mayWeigh(7) of eight boats", 1, Check.eightBoats().mayWeigh(7));
         x.back();
@@ -252,6 +254,7 @@ public final class ClaimSlotEdgesTest {
         due("keep(-1)", UNKNOWN, x.keep(-1));
         due("keep(0)", 0, x.keep(0));
         due("keep(1)", 0, x.keep(1));
+        CHECK.says("They are kept: how many BOATS left. UNKNOWN.");
         due("keep(2)", UNKNOWN, x.keep(2));
         due("again(-1)", UNKNOWN, x.again(-1));
         due("again(0)", 0, x.again(0));

@@ -76,7 +76,7 @@ public final class FigureEdgesTest {
     }
 
     private static void whoIsAPerson() {
-        CHECK.says("UNKNOWN (there is no such PERSON ..)");
+        CHECK.says("UNKNOWN (there is no such PERSON, END, BOAT that left, SLOT)");
         for (int n = 0; n <= 8; n++) {
             FerriesLevel x = Check.ferry("B21180" + "P1093".repeat(n));
             due("person(-1, 0) of " + n, UNKNOWN, x.person(-1, 0));
@@ -96,12 +96,13 @@ public final class FigureEdgesTest {
     }
 
     private static void whatOfAPerson() {
-        CHECK.says("where it is (5) .. UNKNOWN; OUTSIDE.");
+        CHECK.says("OUTSIDE (another number is not as told)");
         FerriesLevel x = Check.ferry("B21180P1093");
         due("person(0, 5)", 10, x.person(0, 5));
         due("person(0, 6)", OUTSIDE, x.person(0, 6));
         due("person(0, 0)", 10, x.person(0, 0));
         due("person(0, -1)", OUTSIDE, x.person(0, -1));
+        CHECK.says("20 it is gone. UNKNOWN; OUTSIDE.");
         due("person(1, 6)", UNKNOWN, x.person(1, 6));
         for (int far : FAR) {
             due("person(0, " + far + ")", OUTSIDE, x.person(0, far));
@@ -172,6 +173,7 @@ public final class FigureEdgesTest {
             due("minutes(" + m + ")", Math.max(0, m - 1), x.minutes(m));
             due("boat(5)", m, x.boat(5));
         }
+        CHECK.says("MINUTES: what they were. OUTSIDE.");
         due("minutes(10)", OUTSIDE, x.minutes(10));
         due("boat(5) behind it", 9, x.boat(5));
         due("minutes(0)", 9, x.minutes(0));

@@ -36,11 +36,16 @@ public final class TextEdgesTest {
         FerriesLevel told = Check.ferry("B21180");
         told.wipe();
         CHECK.same("a new object", Seen.of(told), Seen.of(new FerriesLevel()));
+        CHECK.says("NONE is -9.");
+        due("NONE", -9, NONE);
+        due("bestMakes() of a new object", -9, new FerriesLevel().bestMakes());
         CHECK.says("A boat of two ENDS, nobody.");
         due("boat(0) of a new object", 2, new FerriesLevel().boat(0));
         due("count(1) of a new object", 0, new FerriesLevel().count(1));
         due("count(0) of a new object", 0, new FerriesLevel().count(0));
+        CHECK.says("FAULT; NONE.");
         due("fault() of a new object", 0, new FerriesLevel().fault());
+        due("fault() of B21180", -9, Check.told("B21180").fault());
         due("write(1, B) of a new object", 1, new FerriesLevel().write(1, 'B'));
     }
 
@@ -51,6 +56,7 @@ public final class TextEdgesTest {
             due("write(" + n + ", 0)", n, x.write(n, 0));
             due("count(0) behind it", n, x.count(0));
         }
+        CHECK.says("come behind THE TEXT: how long it is. OUTSIDE");
         for (int n : new int[] {0, 9, -1, -8, 16, 257, Integer.MIN_VALUE, Integer.MIN_VALUE + 8, Integer.MAX_VALUE}) {
             FerriesLevel x = new FerriesLevel();
             due("write(" + n + ", 0)", OUTSIDE, x.write(n, 0));
@@ -288,11 +294,11 @@ public final class TextEdgesTest {
     }
 
     private static void ferryAnew() {
-        CHECK.says("nobody is laid or gone, no BOAT left, what was kept is gone");
         for (String text : new String[] {"B31180" + "P1023".repeat(8), "B21180", "B22339P0971P1303P9990"}) {
             FerriesLevel x = used();
             x.wipe();
             Check.append(x, text);
+            CHECK.says("THE TEXT is THE FERRY (nobody is laid or gone, no BOAT left, what was kept is gone): how many PEOPLE.");
             due("ferry()", (text.length() - 6) / 5, x.ferry());
             CHECK.same("what is made anew", Seen.of(Check.ferry(text)), Seen.of(x));
             due("again(0) behind ferry()", STATE, x.again(0));
